@@ -579,8 +579,8 @@ public final class TopStreet {
             }
             int figures = 0;
             int value = 0;
-            while (figures < 3 && at + figures < count && within(bytes[at + figures], '0', '9')) {
-                value = 10 * value + bytes[at + figures] - '0';
+            for (int i = at; i < count && figures < 3 && within(bytes[i], '0', '9'); i++) {
+                value = 10 * value + bytes[i] - '0';
                 figures++;
             }
             if (!within(figures, 1, 2)) {
@@ -1101,29 +1101,39 @@ public final class TopStreet {
         }
 
         int size() {
-            switch (kind) {
-                case WOOD: return woodSize();
-                case STEEL: return woodSize();
-                case CRACKED: return crackedSize();
-                default: return sizeInParish();
+            if (kind == PARISH || kind == CHURCH) {
+                return sizeInParish();
             }
+            if (kind == CRACKED) {
+                leave(12);
+                return -woodSize();
+            }
+            return woodSize();
         }
 
         int mark() {
             return kind == PARISH || kind == CHURCH ? parishMark() : markInWood();
         }
 
-        // what bodies of wood, and of a parish, ask anew stays among these kinds, so no ask comes back to itself
+        // what a body asks anew stays among its own kinds, so that no ask comes back to itself
         private int sizeInParish() {
-            return kind == CHURCH ? churchSize() : parishSize();
+            if (kind == CHURCH) {
+                leave(14);
+                return 2 * parishSize();
+            }
+            return parishSize();
         }
 
         private int markInWood() {
-            switch (kind) {
-                case CRACKED: return crackedMark();
-                case STEEL: return steelMark();
-                default: return woodMark();
+            if (kind == CRACKED) {
+                leave(24);
+                return 2 * woodMark();
             }
+            if (kind == STEEL) {
+                leave(22);
+                return woodMark() - 1000;
+            }
+            return woodMark();
         }
 
         private int lentSize() {
@@ -1137,19 +1147,9 @@ public final class TopStreet {
             return lent + markInWood();
         }
 
-        private int crackedSize() {
-            leave(12);
-            return -woodSize();
-        }
-
         private int parishSize() {
             leave(13);
             return lentSize() - 100;
-        }
-
-        private int churchSize() {
-            leave(14);
-            return 2 * parishSize();
         }
 
         private int lentMark() {
@@ -1162,20 +1162,10 @@ public final class TopStreet {
             return lentMark() + spin;
         }
 
-        private int steelMark() {
-            leave(22);
-            return woodMark() - 1000;
-        }
-
         private int parishMark() {
             leave(23);
             int lent = lentMark();
             return lent - sizeInParish();
-        }
-
-        private int crackedMark() {
-            leave(24);
-            return 2 * woodMark();
         }
     }
 }
