@@ -507,7 +507,10 @@ public final class TopStreet {
         }
     }
 
-    /** The text of a street, and the reading of it; a fault ends the reading at its token. */
+    /**
+     * The text of a street, and the reading of it; a fault ends the reading at its token.
+     * The street told is never lived in, so that its hour and its walls stay 0.
+     */
     private static final class Tape {
         private static final String SORTS = "wcspk";
         final Street told = new Street();
@@ -526,7 +529,7 @@ public final class TopStreet {
         void read() {
             at = 0;
             fault = 0;
-            told.clear();
+            told.houses = 0;
             readSign('t');
             told.lash = readNumber(1, 30);
             readSign(',');
@@ -604,14 +607,6 @@ public final class TopStreet {
         int lean;
         int hour;
         int walls;
-
-        void clear() {
-            houses = 0;
-            lash = 0;
-            lean = 0;
-            hour = 0;
-            walls = 0;
-        }
 
         void add(int newKind, int newSpin, int newRub) {
             if (houses < HOUSES) {
@@ -747,7 +742,6 @@ public final class TopStreet {
         }
 
         void forget() {
-            oldest = 0;
             count = 0;
         }
 

@@ -77,6 +77,13 @@ public final class ChanceTest {
         drawn(x, 4, 1, 0, 0);
         drawn(x, 5, 1, 1, 49);
         drawn(x, 6, 1, 1, 58);
+        // by 5 it is 84035, by 10 168070, by 2 33614
+        drawn(Due.street("t10,0;w1,1;"), 1, 5, 0, 0);
+        drawn(Due.street("t10,0;w0,1;"), 1, 5, 1, 49);
+        drawn(Due.street("t10,0;w1,1;"), 1, 10, 1, 10);
+        drawn(Due.street("t10,0;w0,1;"), 1, 10, 1, 49);
+        drawn(Due.street("t10,0;w0,1;"), 1, 2, 0, 0);
+        drawn(Due.street("t10,0;w95,1;"), 1, 2, 1, 98);
         // by 3: 1, 1, 2, 2, 1, 2
         x = Due.street("t10,0;w50,1;w0,1;w40,1;");
         drawn(x, 3, 1, 5, 84);

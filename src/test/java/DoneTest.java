@@ -197,6 +197,7 @@ public final class DoneTest {
         Due.is("stand(3)", 46, x.stand(3));
         Due.is("stand(4)", 4, x.stand(4));
         Due.is("stand(5)", 20, x.stand(5));
+        Due.is("stand(1), a FALLEN one and one of 1", 2, Due.street("t4,20;k20,1;w1,1;w0,1;").stand(1));
         Due.is("stand(6)", BAD, x.stand(6));
         Due.is("stand(-1)", BAD, x.stand(-1));
     }

@@ -67,6 +67,9 @@ public final class ForetoldTest {
         x = Due.street("t1,0;w60,1;");
         Due.is("first(0) of 60", 0, x.first(0));
         Due.is("first(1) of 60", 60, x.first(1));
+        x = Due.street("t1,0;w9,1;w1,1;");
+        Due.is("first(0) of 1", 1, x.first(0));
+        Due.is("first(1) of 1", 1, x.first(1));
         x = Due.street("t1,0;w61,1;w0,1;");
         Due.is("first(0) of 61", NONE, x.first(0));
         Due.is("first(1) of 61", NONE, x.first(1));
@@ -108,7 +111,12 @@ public final class ForetoldTest {
         // the middle one is FALLEN: a lash there does nothing
         x = Due.street("t9,0;w8,8;w0,1;w5,1;");
         round(x, 1, 2, 4, 0);
-        round(Due.street("t9,0;w0,3;w0,3;"), 1, 0, 0, 0, 1, 1);
+        round(x, 0, 2, 4, 1);
+        round(Due.street("t9,0;w0,3;w0,3;"), 1, 0, 0, 0, 1);
+        round(Due.street("t9,0;w0,3;w0,3;"), 1, 0, 0, 0);
+        // the first is out of reach, and has 1 behind the hour
+        round(Due.street("t9,0;k2,1;k99,1;k99,1;"), 2, 3, 1, 0);
+        round(Due.street("t9,0;w1,1;w5,1;"), 0, 2, 4, 1);
         Due.is("round(-1, ..)", BAD, x.round(-1, 1, -1));
         Due.is("round(3, ..)", BAD, x.round(3, 1, -1));
         Due.is("round(.., 0, ..)", BAD, x.round(0, 0, -1));
@@ -158,6 +166,7 @@ public final class ForetoldTest {
         x = Due.street("t1,0;w9,9;");
         Due.is("steady(60, 0), one that falls all the same", 0, x.steady(60, 0));
         Due.is("steady(60, 1), one that falls all the same", 0, x.steady(60, 1));
+        Due.is("steady(1, 0), one of 1", 0, Due.street("t1,0;w1,9;").steady(1, 0));
     }
 
     private static void promise23Boys() {
@@ -172,6 +181,16 @@ public final class ForetoldTest {
         Due.is("boys(1, 14): 1 less 6", -5, x.boys(1, 14));
         // it is better to let it fall on the other's
         Due.is("none is lashed", -9, Due.street("t1,20;w1,1;w30,1;").boys(1, 1));
+        x = Due.street("t5,0;w1,1;w0,1;w4,1;");
+        Due.is("boys(0, 3)", 1, x.boys(0, 3));
+        Due.is("boys(1, 3): the third", 6, x.boys(1, 3));
+        Due.is("boys(3, 3): the third twice", 11, x.boys(3, 3));
+        x = Due.street("t5,0;w0,1;w1,1;w0,1;w4,1;w0,1;");
+        Due.is("boys(1, 3)", -1, x.boys(1, 3));
+        Due.is("boys(2, 3): the fourth", -6, x.boys(2, 3));
+        Due.is("boys(4, 3): the fourth twice", -11, x.boys(4, 3));
+        Due.is("one of 1 is lashed", 5, Due.street("t5,0;w1,1;").boys(1, 1));
+        x = Due.street("t5,0;w10,1;w20,1;");
         Due.is("FALLEN ones are not", 0, Due.street("t9,0;w0,1;w0,1;").boys(4, 2));
         Due.is("boys(-1, 1)", BAD, x.boys(-1, 1));
         Due.is("boys(5, 1)", BAD, x.boys(5, 1));
@@ -196,6 +215,7 @@ public final class ForetoldTest {
         shares(x, 999, 600, 266, 0, 0, 133);
         shares(Due.street("t1,0;w99,1;w0,1;w98,1;w98,1;"), 5, 0, 0, 3, 2);
         shares(Due.street("t1,0;w99,1;w0,1;"), 5, 0, 0);
+        shares(Due.street("t1,0;w1,1;w97,1;"), 10, 10, 0);
         Due.is("string(0, -1)", BAD, x.string(0, -1));
         Due.is("string(0, 1000)", BAD, x.string(0, 1000));
         Due.is("string(5, 1)", BAD, x.string(5, 1));

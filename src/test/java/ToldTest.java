@@ -5,6 +5,7 @@ public final class ToldTest {
     public static void main(String[] args) {
         promise6Feed();
         promise7Street();
+        promise7TheEnd();
         promise7StreetInPlaceOfOne();
         promise7FaultsChangeNothing();
         promise8Fault();
@@ -95,6 +96,20 @@ public final class ToldTest {
         fault(eight + "t", 45, 1);
         fault(eight + "5", 45, 1);
         fault("t1,0;w1,0;w1,1;w1,1;w1,1;w1,1;w1,1;w1,1;w1,1;w1,1;", 8, 2);
+    }
+
+    /** What an earlier text left behind the end is not read. */
+    private static void promise7TheEnd() {
+        String[] shorter = {"t1", "t12", "t12,3", "t12,34", "t12,34;", "t12,34;w", "t12,34;w5", "t12,34;w56,7"};
+        for (String text : shorter) {
+            TopStreet x = Due.street("t12,34;w56,7;k8,9;");
+            Due.feed(x, text);
+            Due.is("street() of " + text, -1000100 - text.length(), x.street());
+            Due.is("fault() of " + text, 1, x.fault());
+        }
+        TopStreet x = Due.street("t12,34;w56,7;k8,9;");
+        Due.feed(x, "t12,34;w56,7;");
+        Due.is("street()", 1, x.street());
     }
 
     private static void promise7StreetInPlaceOfOne() {
