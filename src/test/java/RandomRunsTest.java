@@ -1,5 +1,9 @@
+import java.lang.reflect.Method;
 import java.util.ArrayList;
+import java.util.Arrays;
+import java.util.HashMap;
 import java.util.List;
+import java.util.Map;
 import java.util.Random;
 
 /** All promises: runs of calls by seeds, each answer held against the model's. */
@@ -8,6 +12,7 @@ public final class RandomRunsTest {
         "lash", "touch", "putUp", "house", "stand", "ahead", "when", "first", "left", "round", "walls", "steady",
         "boys", "string", "who", "finger", "lashes", "crack", "drawn", "image", "restore", "kind", "as", "ask",
         "trace", "count", "status"};
+    private static final Map<String, Method> OF_CLASS = methods(TopStreet.class), OF_MODEL = methods(Model.class);
     private static final int RUNS = 3000, CALLS = 160;
     private static final int[] FAR = {Integer.MIN_VALUE, Integer.MAX_VALUE, -1000000, 1000000, -1, 8, 61, 999};
 
@@ -159,9 +164,9 @@ public final class RandomRunsTest {
         if (differs) {
             return;
         }
-        long want = ofModel(m, name, a);
-        long got = ofClass(x, name, a);
-        StringBuilder line = new StringBuilder(name).append(java.util.Arrays.toString(a)).append(" = ").append(got);
+        long want = answer(OF_MODEL, m, name, a);
+        long got = answer(OF_CLASS, x, name, a);
+        StringBuilder line = new StringBuilder(name).append(Arrays.toString(a)).append(" = ").append(got);
         if (want != got) {
             differs = true;
             line.append(", the model says ").append(want);
@@ -169,85 +174,20 @@ public final class RandomRunsTest {
         told.add(line.toString());
     }
 
-    private static long ofClass(TopStreet x, String name, int[] a) {
-        switch (name) {
-            case "row": return x.row(a[0], a[1], a[2]);
-            case "set": return x.set(a[0], a[1], a[2]);
-            case "copy": return x.copy(a[0], a[1], a[2], a[3], a[4]);
-            case "drop": return x.drop(a[0]);
-            case "feed": return x.feed(a[0]);
-            case "street": return x.street();
-            case "fault": return x.fault();
-            case "undo": return x.undo();
-            case "hours": return x.hours(a[0]);
-            case "lash": return x.lash(a[0]);
-            case "touch": return x.touch(a[0], a[1]);
-            case "putUp": return x.putUp(a[0]);
-            case "house": return x.house(a[0], a[1]);
-            case "stand": return x.stand(a[0]);
-            case "ahead": return x.ahead(a[0], a[1]);
-            case "when": return x.when(a[0], a[1]);
-            case "first": return x.first(a[0]);
-            case "left": return x.left(a[0]);
-            case "round": return x.round(a[0], a[1], a[2]);
-            case "walls": return x.walls(a[0], a[1]);
-            case "steady": return x.steady(a[0], a[1]);
-            case "boys": return x.boys(a[0], a[1]);
-            case "string": return x.string(a[0], a[1]);
-            case "who": return x.who(a[0], a[1], a[2], a[3], a[4]);
-            case "finger": return x.finger(a[0], a[1], a[2], a[3]);
-            case "lashes": return x.lashes(a[0], a[1], a[2], a[3], a[4]);
-            case "crack": return x.crack(a[0], a[1], a[2], a[3]);
-            case "drawn": return x.drawn(a[0], a[1], a[2]);
-            case "image": return x.image(a[0]);
-            case "restore": return x.restore(a[0]);
-            case "kind": return x.kind(a[0]);
-            case "as": return x.as(a[0], a[1]);
-            case "ask": return x.ask(a[0], a[1]);
-            case "trace": return x.trace(a[0]);
-            case "count": return x.count(a[0]);
-            default: return x.status();
+    private static Map<String, Method> methods(Class<?> of) {
+        Map<String, Method> byName = new HashMap<>();
+        for (Method one : of.getDeclaredMethods()) {
+            byName.put(one.getName(), one);
         }
+        return byName;
     }
 
-    private static long ofModel(Model x, String name, int[] a) {
-        switch (name) {
-            case "row": return x.row(a[0], a[1], a[2]);
-            case "set": return x.set(a[0], a[1], a[2]);
-            case "copy": return x.copy(a[0], a[1], a[2], a[3], a[4]);
-            case "drop": return x.drop(a[0]);
-            case "feed": return x.feed(a[0]);
-            case "street": return x.street();
-            case "fault": return x.fault();
-            case "undo": return x.undo();
-            case "hours": return x.hours(a[0]);
-            case "lash": return x.lash(a[0]);
-            case "touch": return x.touch(a[0], a[1]);
-            case "putUp": return x.putUp(a[0]);
-            case "house": return x.house(a[0], a[1]);
-            case "stand": return x.stand(a[0]);
-            case "ahead": return x.ahead(a[0], a[1]);
-            case "when": return x.when(a[0], a[1]);
-            case "first": return x.first(a[0]);
-            case "left": return x.left(a[0]);
-            case "round": return x.round(a[0], a[1], a[2]);
-            case "walls": return x.walls(a[0], a[1]);
-            case "steady": return x.steady(a[0], a[1]);
-            case "boys": return x.boys(a[0], a[1]);
-            case "string": return x.string(a[0], a[1]);
-            case "who": return x.who(a[0], a[1], a[2], a[3], a[4]);
-            case "finger": return x.finger(a[0], a[1], a[2], a[3]);
-            case "lashes": return x.lashes(a[0], a[1], a[2], a[3], a[4]);
-            case "crack": return x.crack(a[0], a[1], a[2], a[3]);
-            case "drawn": return x.drawn(a[0], a[1], a[2]);
-            case "image": return x.image(a[0]);
-            case "restore": return x.restore(a[0]);
-            case "kind": return x.kind(a[0]);
-            case "as": return x.as(a[0], a[1]);
-            case "ask": return x.ask(a[0], a[1]);
-            case "trace": return x.trace(a[0]);
-            case "count": return x.count(a[0]);
-            default: return x.status();
+    private static long answer(Map<String, Method> methods, Object of, String name, int[] a) {
+        try {
+            Object answer = methods.get(name).invoke(of, Arrays.stream(a).boxed().toArray());
+            return ((Number) answer).longValue();
+        } catch (ReflectiveOperationException e) {
+            throw new IllegalStateException(name + Arrays.toString(a), e);
         }
     }
 }
