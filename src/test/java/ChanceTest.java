@@ -11,39 +11,33 @@ public final class ChanceTest {
         Due.end("ChanceTest");
     }
 
-    private static void crack(TopStreet x, int house, int n, int p, long above, long below) {
-        String of = "crack(" + house + ", " + n + ", " + p;
-        Due.is(of + ", 0)", above, x.crack(house, n, p, 0));
-        Due.is(of + ", 1)", below, x.crack(house, n, p, 1));
-    }
-
     private static void promise28Crack() {
         TopStreet x = Due.street("t1,0;w4,1;");
-        crack(x, 0, 0, 3, 1, 1);
-        crack(x, 0, 1, 3, 1, 1);
-        crack(x, 0, 2, 3, 7, 10);
-        crack(x, 0, 2, 4, 3, 5);
-        crack(x, 0, 3, 5, 1, 2);
-        crack(x, 0, 2, 0, 1, 1);
-        crack(x, 0, 2, 10, 0, 1);
-        crack(x, 0, 4, 3, 0, 1);
-        crack(x, 0, 30, 3, 0, 1);
-        crack(Due.street("t1,0;w1,1;"), 0, 0, 3, 7, 10);
+        Due.crack(x, 0, 0, 3, 1, 1);
+        Due.crack(x, 0, 1, 3, 1, 1);
+        Due.crack(x, 0, 2, 3, 7, 10);
+        Due.crack(x, 0, 2, 4, 3, 5);
+        Due.crack(x, 0, 3, 5, 1, 2);
+        Due.crack(x, 0, 2, 0, 1, 1);
+        Due.crack(x, 0, 2, 10, 0, 1);
+        Due.crack(x, 0, 4, 3, 0, 1);
+        Due.crack(x, 0, 30, 3, 0, 1);
+        Due.crack(Due.street("t1,0;w1,1;"), 0, 0, 3, 7, 10);
         // it stands if the one before is FALLEN by its crack, and so does not fall on it
-        crack(Due.street("t1,9;w1,1;w9,1;"), 1, 1, 3, 3, 10);
+        Due.crack(Due.street("t1,9;w1,1;w9,1;"), 1, 1, 3, 3, 10);
         x = Due.street("t1,0;w0,1;w4,1;");
-        crack(x, 0, 0, 5, 0, 1);
-        crack(x, 1, 2, 5, 1, 2);
+        Due.crack(x, 0, 0, 5, 0, 1);
+        Due.crack(x, 1, 2, 5, 1, 2);
         // each of 7 must not be halved, or else it falls on the next, which then lacks 40
         x = Due.street("t1,40;w2,1;w9,1;w9,1;w9,1;w9,1;w9,1;w9,1;w9,1;");
-        crack(x, 7, 1, 5, 1, 2);
-        crack(x, 0, 1, 1, 9, 10);
+        Due.crack(x, 7, 1, 5, 1, 2);
+        Due.crack(x, 0, 1, 1, 9, 10);
         // falls if any of them is halved to 4 and gone in 4 hours: 9 of 10 to the eighth, by 10 to the eighth
         x = Due.street("t1,40;w9,1;w9,1;w9,1;w9,1;w9,1;w9,1;w9,1;w9,1;");
-        crack(x, 7, 4, 1, 43046721, 100000000);
-        crack(x, 7, 4, 2, 65536, 390625);
-        crack(x, 0, 4, 7, 3, 10);
-        crack(x, 7, 3, 9, 1, 1);
+        Due.crack(x, 7, 4, 1, 43046721, 100000000);
+        Due.crack(x, 7, 4, 2, 65536, 390625);
+        Due.crack(x, 0, 4, 7, 3, 10);
+        Due.crack(x, 7, 3, 9, 1, 1);
     }
 
     private static void promise28Refusals() {

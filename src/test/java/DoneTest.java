@@ -15,19 +15,13 @@ public final class DoneTest {
         Due.end("DoneTest");
     }
 
-    private static void spins(String of, TopStreet x, int... spins) {
-        for (int h = 0; h < spins.length; h++) {
-            Due.is("SPIN of " + h + ", " + of, spins[h], x.house(h, 0));
-        }
-    }
-
     private static void promise10Losses() {
         TopStreet x = Due.street("t5,10;w20,3;c9,3;c10,3;s8,7;s8,1;p16,4;k50,2;k49,2;");
         Due.is("hours(1)", 255, x.hours(1));
-        spins("kinds", x, 17, 3, 7, 5, 7, 15, 50, 48);
+        Due.spins("kinds", x, 17, 3, 7, 5, 7, 15, 50, 48);
         // a cracked one that loses more than it has comes to 0, and takes 10 of the next
         Due.is("hours(1)", 255 - 2 - 4 - 8 - 16, x.hours(1));
-        spins("kinds, once more", x, 14, 0, 0, 0, 0, 4, 50, 47);
+        Due.spins("kinds, once more", x, 14, 0, 0, 0, 0, 4, 50, 47);
         Due.is("HOUR", 2, x.count(2));
         Due.is("ACTS", 2, x.count(6));
         x = Due.street("t5,10;p30,9;p30,9;p30,9;k60,9;k40,9;");
@@ -36,7 +30,7 @@ public final class DoneTest {
         }
         // losses 2, 3, 3, 0, 2; then 60 less 27 is 33: 8; then 52 less 38: 3
         Due.is("hours(1)", 31, x.hours(1));
-        spins("parishes", x, 28, 27, 35, 49, 41);
+        Due.spins("parishes", x, 28, 27, 35, 49, 41);
         Due.is("hours(24)", 0, x.hours(24));
         Due.is("ACTS", 24, x.count(6));
     }
@@ -48,42 +42,42 @@ public final class DoneTest {
         }
         // 39 3 3 0 8: 9 go over wall 0, then 2 over wall 1; over walls 2 and 3 nothing; then 5 are lost
         Due.is("hours(1)", 23, x.hours(1));
-        spins("walls from 0 on", x, 30, 10, 5, 0, 3);
+        Due.spins("walls from 0 on", x, 30, 10, 5, 0, 3);
         x = Due.street("t5,5;w4,1;w4,1;w40,1;");
         x.touch(0, 1);
         x.touch(1, 1);
         Due.is("hours(1)", 7, x.hours(1));
-        spins("walls from 0 on, the other way", x, 3, 12, 30);
+        Due.spins("walls from 0 on, the other way", x, 3, 12, 30);
         x.touch(1, 0);
         x.hours(1);
         // 2 11 29: 2 go over wall 0
-        spins("a wall that touches no more", x, 4, 9, 29);
+        Due.spins("a wall that touches no more", x, 4, 9, 29);
         x = Due.street("t5,5;w5,1;w8,1;w12,1;");
         x.touch(0, 1);
         x.touch(1, 1);
         x.hours(1);
-        spins("a quarter is cut", x, 4, 8, 10);
+        Due.spins("a quarter is cut", x, 4, 8, 10);
     }
 
     private static void promise10Falls() {
         TopStreet x = Due.street("t1,9;w3,3;w9,1;w5,1;w9,9;w20,1;");
         Due.is("a row that goes over", 16, x.hours(1));
-        spins("a row that goes over", x, 0, 0, 0, 0, 10);
+        Due.spins("a row that goes over", x, 0, 0, 0, 0, 10);
         x = Due.street("t1,9;w0,1;w30,1;");
         Due.is("hours(1)", 2, x.hours(1));
-        spins("what is FALLEN falls on nobody", x, 0, 29);
+        Due.spins("what is FALLEN falls on nobody", x, 0, 29);
         x = Due.street("t1,9;w30,1;w1,1;");
         Due.is("hours(1)", 1, x.hours(1));
-        spins("the one before is not fallen on", x, 29, 0);
+        Due.spins("the one before is not fallen on", x, 29, 0);
         x = Due.street("t1,9;w1,1;w11,1;w1,1;");
         Due.is("hours(1)", 2, x.hours(1));
-        spins("it keeps 1", x, 0, 1, 0);
+        Due.spins("it keeps 1", x, 0, 1, 0);
         x = Due.street("t1,9;w1,1;w0,1;w30,1;");
         Due.is("hours(1)", 4, x.hours(1));
-        spins("a FALLEN one does not fall in its turn", x, 0, 0, 29);
+        Due.spins("a FALLEN one does not fall in its turn", x, 0, 0, 29);
         x = Due.street("t1,0;w1,1;w9,1;");
         Due.is("hours(1)", 2, x.hours(1));
-        spins("LEAN 0", x, 0, 8);
+        Due.spins("LEAN 0", x, 0, 8);
     }
 
     private static void promise10Refusals() {
@@ -123,7 +117,7 @@ public final class DoneTest {
         Due.is("lash(3)", 99, x.lash(3));
         Due.is("lash(3) again", 99, x.lash(3));
         Due.is("ACTS", 4, x.count(6));
-        spins("lashes", x, 31, 0, 99, 99);
+        Due.spins("lashes", x, 31, 0, 99, 99);
     }
 
     private static void promise12Touch() {

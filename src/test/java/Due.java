@@ -46,4 +46,28 @@ final class Due {
             is("set", items[i], x.set(r, i, items[i]));
         }
     }
+
+    static void spins(String of, TopStreet x, int... due) {
+        for (int h = 0; h < due.length; h++) {
+            is("SPIN of " + h + ", " + of, due[h], x.house(h, 0));
+        }
+    }
+
+    /** Whatever a round of as many hours as the row has answers. */
+    static void round(TopStreet x, int house, int stand, int least, int... row) {
+        String of = "round from " + house + ", ";
+        int n = row.length;
+        is(of + "how many stand", stand, x.round(house, n, -1));
+        is(of + "the least", least, x.round(house, n, -2));
+        for (int k = 0; k < n; k++) {
+            is(of + "k = " + k, row[k], x.round(house, n, k));
+        }
+        is(of + "not so many", TopStreet.NONE, x.round(house, n, n));
+    }
+
+    static void crack(TopStreet x, int house, int n, int p, long above, long below) {
+        String of = "crack(" + house + ", " + n + ", " + p;
+        is(of + ", 0)", above, x.crack(house, n, p, 0));
+        is(of + ", 1)", below, x.crack(house, n, p, 1));
+    }
 }

@@ -87,36 +87,25 @@ public final class ForetoldTest {
         Due.is("left(-1)", BAD, x.left(-1));
     }
 
-    private static void round(TopStreet x, int house, int stand, int least, int... row) {
-        String of = "round from " + house + ", ";
-        int n = row.length;
-        Due.is(of + "how many stand", stand, x.round(house, n, -1));
-        Due.is(of + "the least", least, x.round(house, n, -2));
-        for (int k = 0; k < n; k++) {
-            Due.is(of + "k = " + k, row[k], x.round(house, n, k));
-        }
-        Due.is(of + "beyond", NONE, x.round(house, n, n));
-    }
-
     private static void promise20Round() {
         Due.is("round(0, 1, -1), no street", BAD, new TopStreet().round(0, 1, -1));
         TopStreet x = Due.street("t5,3;w10,1;");
-        round(x, 0, 1, 18, 1, 1);
+        Due.round(x, 0, 1, 18, 1, 1);
         x = Due.street("t9,0;w3,3;w3,3;");
-        round(x, 0, 1, 9, 1);
-        round(x, 1, 1, 9, 0);
+        Due.round(x, 0, 1, 9, 1);
+        Due.round(x, 1, 1, 9, 0);
         // going up and staying there leaves 8, 16, 18; any other way less
         x = Due.street("t9,0;w10,1;w4,3;w20,1;");
-        round(x, 0, 3, 8, 2, 1);
+        Due.round(x, 0, 3, 8, 2, 1);
         // the middle one is FALLEN: a lash there does nothing
         x = Due.street("t9,0;w8,8;w0,1;w5,1;");
-        round(x, 1, 2, 4, 0);
-        round(x, 0, 2, 4, 1);
-        round(Due.street("t9,0;w0,3;w0,3;"), 1, 0, 0, 0, 1);
-        round(Due.street("t9,0;w0,3;w0,3;"), 1, 0, 0, 0);
+        Due.round(x, 1, 2, 4, 0);
+        Due.round(x, 0, 2, 4, 1);
+        Due.round(Due.street("t9,0;w0,3;w0,3;"), 1, 0, 0, 0, 1);
+        Due.round(Due.street("t9,0;w0,3;w0,3;"), 1, 0, 0, 0);
         // the first is out of reach, and has 1 behind the hour
-        round(Due.street("t9,0;k2,1;k99,1;k99,1;"), 2, 3, 1, 0);
-        round(Due.street("t9,0;w1,1;w5,1;"), 0, 2, 4, 1);
+        Due.round(Due.street("t9,0;k2,1;k99,1;k99,1;"), 2, 3, 1, 0);
+        Due.round(Due.street("t9,0;w1,1;w5,1;"), 0, 2, 4, 1);
         Due.is("round(-1, ..)", BAD, x.round(-1, 1, -1));
         Due.is("round(3, ..)", BAD, x.round(3, 1, -1));
         Due.is("round(.., 0, ..)", BAD, x.round(0, 0, -1));

@@ -88,7 +88,8 @@ public final class LanguageTest {
                 if (member instanceof VariableTree field) {
                     Set<Modifier> f = field.getModifiers().getFlags();
                     fields += f.contains(Modifier.STATIC) ? 0 : 1;
-                    rule("rule 5: statics are final", !f.contains(Modifier.STATIC) || f.contains(Modifier.FINAL), field);
+                    rule("rule 5: statics are final",
+                        !f.contains(Modifier.STATIC) || f.contains(Modifier.FINAL), field);
                     rule("rule 1: fields of the face's class are private", depthOfClasses > 0
                         || f.contains(Modifier.PRIVATE) || f.contains(Modifier.PUBLIC), field);
                 }

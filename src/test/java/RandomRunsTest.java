@@ -1,9 +1,3 @@
-import java.lang.reflect.Method;
-import java.util.ArrayList;
-import java.util.Arrays;
-import java.util.HashMap;
-import java.util.List;
-import java.util.Map;
 import java.util.Random;
 
 /** All promises: runs of calls by seeds, each answer held against the model's. */
@@ -12,15 +6,11 @@ public final class RandomRunsTest {
         "lash", "touch", "putUp", "house", "stand", "ahead", "when", "first", "left", "round", "walls", "steady",
         "boys", "string", "who", "finger", "lashes", "crack", "drawn", "image", "restore", "kind", "as", "ask",
         "trace", "count", "status"};
-    private static final Map<String, Method> OF_CLASS = methods(TopStreet.class), OF_MODEL = methods(Model.class);
-    private static final int RUNS = 3000, CALLS = 160;
+    private static final int RUNS = 3600, STEPS = 160;
     private static final int[] FAR = {Integer.MIN_VALUE, Integer.MAX_VALUE, -1000000, 1000000, -1, 8, 61, 999};
 
     private final Random random;
-    private final TopStreet x = new TopStreet();
-    private final Model m = new Model();
-    private final List<String> told = new ArrayList<>();
-    private boolean differs = false;
+    private final Both both = new Both();
 
     private RandomRunsTest(long seed) {
         random = new Random(seed);
@@ -31,12 +21,7 @@ public final class RandomRunsTest {
         for (int run = 0; run < RUNS && wrong < 3; run++) {
             RandomRunsTest one = new RandomRunsTest(run);
             one.go();
-            if (one.differs) {
-                wrong++;
-                System.out.println("run " + run + ":");
-                one.told.forEach(System.out::println);
-            }
-            Due.is("run " + run, 0, one.differs ? 1 : 0);
+            wrong += one.both.judge("run " + run) ? 0 : 1;
         }
         Due.end("RandomRunsTest");
     }
@@ -45,7 +30,7 @@ public final class RandomRunsTest {
         if (random.nextInt(20) != 0) {
             feedStreet();
         }
-        for (int i = 0; i < CALLS && !differs; i++) {
+        for (int i = 0; i < STEPS && !both.isOver(); i++) {
             step();
         }
     }
@@ -57,14 +42,14 @@ public final class RandomRunsTest {
         } else if (dice < 14) {
             hum();
         } else if (dice < 16) {
-            for (int i = 0; i < 30 && !differs; i++) {
-                call("lash", any(8));
+            for (int i = 0; i < 30; i++) {
+                both.call("lash", any(8));
             }
         } else {
             String name = NAMES[random.nextInt(NAMES.length)];
             // a street fed by one call each is seldom one
             if (!name.equals("street") || random.nextInt(6) == 0) {
-                call(name, arguments(name));
+                both.call(name, arguments(name));
             }
         }
     }
@@ -74,17 +59,17 @@ public final class RandomRunsTest {
         int house = any(8);
         int n = 1 + random.nextInt(12);
         int row = random.nextInt(8);
-        call("row", row, random.nextInt(3), n + random.nextInt(3));
+        both.call("row", row, random.nextInt(3), n + random.nextInt(3));
         int from = random.nextInt(3);
         for (int i = 0; i < n; i++) {
-            int v = x.ahead(house, i + 1) + (random.nextInt(40) == 0 ? 1 : 0);
-            call("set", row, from + i, v);
+            int v = both.m.ahead(house, i + 1) + (random.nextInt(40) == 0 ? 1 : 0);
+            both.call("set", row, from + i, v);
         }
         for (int which = 0; which < 5; which++) {
-            call("who", house, which, row, from, n);
+            both.call("who", house, which, row, from, n);
         }
-        call("finger", house, row, from, n);
-        call("lashes", house, any(8), row, from, n);
+        both.call("finger", house, row, from, n);
+        both.call("lashes", house, any(8), row, from, n);
     }
 
     private int any(int below) {
@@ -151,43 +136,10 @@ public final class RandomRunsTest {
         } else if (random.nextInt(20) == 0) {
             text.append("w1,1;w1,1;w1,1;w1,1;");
         }
-        for (int i = 0; i < text.length() && !differs; i++) {
-            call("feed", text.charAt(i));
-        }
-        call("street");
-        for (int i = 0; i < 4 && !differs; i++) {
-            call("touch", random.nextInt(8), 1);
-        }
-    }
-
-    private void call(String name, int... a) {
-        if (differs) {
-            return;
-        }
-        long want = answer(OF_MODEL, m, name, a);
-        long got = answer(OF_CLASS, x, name, a);
-        StringBuilder line = new StringBuilder(name).append(Arrays.toString(a)).append(" = ").append(got);
-        if (want != got) {
-            differs = true;
-            line.append(", the model says ").append(want);
-        }
-        told.add(line.toString());
-    }
-
-    private static Map<String, Method> methods(Class<?> of) {
-        Map<String, Method> byName = new HashMap<>();
-        for (Method one : of.getDeclaredMethods()) {
-            byName.put(one.getName(), one);
-        }
-        return byName;
-    }
-
-    private static long answer(Map<String, Method> methods, Object of, String name, int[] a) {
-        try {
-            Object answer = methods.get(name).invoke(of, Arrays.stream(a).boxed().toArray());
-            return ((Number) answer).longValue();
-        } catch (ReflectiveOperationException e) {
-            throw new IllegalStateException(name + Arrays.toString(a), e);
+        both.feed(text.toString());
+        both.call("street");
+        for (int i = 0; i < 4; i++) {
+            both.call("touch", random.nextInt(8), 1);
         }
     }
 }
